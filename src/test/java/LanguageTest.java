@@ -10,10 +10,11 @@ import java.util.regex.Pattern;
 public final class LanguageTest {
     private static final String[] RULED_OUT = {
         "throw", "throws", "try", "catch", "finally", "synchronized", "assert", "package", "protected", "volatile",
-        "Object", "Random", "System\\.(?!arraycopy)\\w+", "Thread", "equals", "hashCode", "toString", "\\w+Exact",
-        "instanceof", "var", "native", "strictfp", "transient"};
-    private static final Set<String> LIBRARY = Set.of(
-        "Arrays.fill", "Integer.bitCount", "Math.max", "System.arraycopy", "Long.MIN_VALUE");
+        "native", "strictfp", "transient", "Object", "Random", "Thread", "\\w+Exact", "System\\.(?!arraycopy)\\w+",
+        "boolean equals", "int hashCode", "String toString"};
+    private static final Pattern LIBRARY = Pattern.compile(
+        "Arrays\\.(fill|copyOf|copyOfRange)|System\\.arraycopy|List\\.of|(Integer|Long|Math)\\.\\w+");
+    private static final int LONGEST_METHOD = 65;
 
     private static final Check c = new Check("LanguageTest");
 
@@ -24,58 +25,60 @@ public final class LanguageTest {
         for (String word : RULED_OUT) {
             c.due("'" + word + "'", count(code, "\\b" + word + "\\b"), 0);
         }
-        c.due("lambdas", count(code, "->"), 0);
+        c.due("lambdas", count(code.replaceAll("(case [^:;{}]*?|default) ->", ""), "->"), 0);
         c.due("method references", count(code, "::"), 0);
         c.due("static blocks", count(code, "static\\s*\\{"), 0);
-        c.due("texts", count(code, "\""), 0);
-        c.due("imports", count(code, "\\bimport\\b"), count(code, "\\bimport java\\.util\\.Arrays;"));
-        c.due("static fields that are not final", count(code, "\\bstatic (?!final|int \\w+\\(|boolean \\w+\\()"), 0);
+        c.due("imports", count(code, "\\bimport\\b"),
+            count(code, "\\bimport java\\.util\\.(Arrays|ArrayList|List|Iterator);"));
+        c.due("static fields that are not final",
+            count(code, "\\bstatic (?!final|class|abstract|record|enum|interface)[\\w<>\\[\\], ]+ \\w+( =[^=]|;)"), 0);
         usesOnlyTheLibrary(code);
         methodsAreShort(code);
-        madeWithTheObjectOnly(code);
         c.end();
     }
 
     private static int count(String code, String pattern) {
+        return found(code, pattern).size();
+    }
+
+    private static Set<String> found(String code, String pattern) {
+        Set<String> found = new TreeSet<>();
         Matcher m = Pattern.compile(pattern).matcher(code);
-        int count = 0;
         while (m.find()) {
-            count++;
+            found.add(m.start() + ": " + m.group());
         }
-        return count;
+        return found;
     }
 
     private static void usesOnlyTheLibrary(String code) {
-        Set<String> used = new TreeSet<>();
-        Matcher m = Pattern.compile("(?<![\\w.])[A-Z]\\w*\\.\\w+").matcher(code);
+        Set<String> own = new TreeSet<>();
+        Matcher declared = Pattern.compile("\\b(?:class|enum|record|interface) (\\w+)").matcher(code);
+        while (declared.find()) {
+            own.add(declared.group(1));
+        }
+        Set<String> unknown = new TreeSet<>();
+        Matcher m = Pattern.compile("(?<![\\w.])([A-Z]\\w*[a-z]\\w*)\\.\\w+").matcher(code);
         while (m.find()) {
-            used.add(m.group());
+            if (!own.contains(m.group(1)) && !LIBRARY.matcher(m.group()).matches()) {
+                unknown.add(m.group());
+            }
         }
-        used.removeAll(LIBRARY);
-        c.due("of the library, beyond what is known to be told: " + used, used.size(), 0);
-    }
-
-    /** All calls of one run share one room: rows are made with the object and used again, none in a call. */
-    private static void madeWithTheObjectOnly(String code) {
-        for (String line : code.split("\n")) {
-            boolean made = line.matches(".*\\bnew\\b.*");
-            boolean withTheObject = line.matches("\\s*(private )?final [^(]* = new .*;")
-                || line.trim().equals("sheets[k] = new Sheet();");
-            c.due("made in a call: " + line.trim(), made && !withTheObject ? 1 : 0, 0);
-        }
+        c.due("of the library, beyond what is told: " + unknown, unknown.size(), 0);
     }
 
     private static void methodsAreShort(String code) {
-        int start = -1;
-        String[] lines = code.split("\n");
-        for (int k = 0; k < lines.length; k++) {
-            if (lines[k].matches(" {4}(?: {4})?[^ }].*\\) \\{")) {
-                start = k;
+        Matcher m = Pattern.compile("(?m)^ *(?!return|else|new)[\\w<>\\[\\] ]+ (?!if|for|while|switch)\\w+\\([^()]*\\) \\{$")
+            .matcher(code);
+        int methods = 0;
+        while (m.find()) {
+            methods++;
+            int end = m.end();
+            for (int open = 1; open > 0 && end < code.length(); end++) {
+                open += code.charAt(end) == '{' ? 1 : code.charAt(end) == '}' ? -1 : 0;
             }
-            if (start >= 0 && lines[k].matches(" {4}(?: {4})?\\}")) {
-                c.due("lines of the method at '" + lines[start].trim() + "' above 60", Math.max(k - start - 59, 0), 0);
-                start = -1;
-            }
+            long lines = code.substring(m.start(), end).lines().count();
+            c.due("lines of '" + m.group().trim() + "' above " + LONGEST_METHOD, Math.max(lines - LONGEST_METHOD, 0), 0);
         }
+        c.due("methods are found", methods > 32 ? 1 : 0, 1);
     }
 }
